@@ -1,0 +1,201 @@
+import java.lang.reflect.Field;
+import java.util.HashSet;
+import java.util.List;
+import java.util.Set;
+
+/**
+ * Parts of promise 7 that no sensible run of calls comes to. An admitted set never
+ * has a late or dropped job, and time wraps only after 2^31 ticks. So this test,
+ * and no other, reaches into the object: it makes an admitted task worse than the
+ * analysis allowed, or sets the clock.
+ */
+public final class OutOfReachTest {
+    private static final String[] FIELDS = {
+        "time", "idleTicks", "preemptions", "deadlineOf", "costOf", "releasedOf", "endedOf",
+    };
+
+    public static void main(String[] args) throws ReflectiveOperationException {
+        if (!isStoredAsKnown()) {
+            // The document leaves the storage free, so another one is no fault.
+            System.out.println("NOT RUN: the class keeps its state in other fields; name them here");
+            return;
+        }
+        lateEnd();
+        endOnTheDeadline();
+        droppedJob();
+        dropIsNoPreemption();
+        dropMakesTheMarkAnew();
+        dropIsOneMissAndNoEnd();
+        timeWraps();
+        jobAcrossTheWrap();
+        countsWrap();
+        Check.end();
+    }
+
+    private static boolean isStoredAsKnown() {
+        Set<String> names = new HashSet<>();
+        for (Field f : RateMonoKernel.class.getDeclaredFields()) {
+            names.add(f.getName());
+        }
+        return names.containsAll(List.of(FIELDS));
+    }
+
+    private static Field field(String name) throws ReflectiveOperationException {
+        Field f = RateMonoKernel.class.getDeclaredField(name);
+        f.setAccessible(true);
+        return f;
+    }
+
+    private static void set(RateMonoKernel x, String name, int value) throws ReflectiveOperationException {
+        field(name).setInt(x, value);
+    }
+
+    private static void setOf(RateMonoKernel x, String name, int slot, int value) throws ReflectiveOperationException {
+        ((int[]) field(name).get(x))[slot] = value;
+    }
+
+    private static RateMonoKernel one(int period, int cost) {
+        RateMonoKernel x = new RateMonoKernel(2, 8);
+        x.admit(period, period, cost, 0);
+        return x;
+    }
+
+    private static void lateEnd() throws ReflectiveOperationException {
+        RateMonoKernel x = one(10, 4);
+        setOf(x, "deadlineOf", 0, 3);
+        x.start();
+        x.run(10);
+        Check.dueTask(x, 0, 10, 3, 4, 0, 0, 4, 4, 0, 1, 1, 0, 1, 4, 4, 0);
+        x.setDemand(0, 3);
+        x.run(10);
+        Check.dueTask(x, 0, 10, 3, 4, 0, 0, 3, 4, 0, 2, 2, 0, 1, 4, 3, 0);
+        x.setDemand(0, 5);
+        x.run(10);
+        // A job can be both: stopped by the budget, and late.
+        Check.dueTask(x, 0, 10, 3, 4, 0, 0, 5, 4, 0, 3, 3, 1, 2, 4, 4, 0);
+        Check.dueLog(x, 4, 3, 512 + 4);
+    }
+
+    private static void endOnTheDeadline() throws ReflectiveOperationException {
+        RateMonoKernel x = one(10, 4);
+        setOf(x, "deadlineOf", 0, 4);
+        x.start();
+        x.run(10);
+        Check.dueField(x, 0, RateMonoKernel.F_MISSES, 0);
+    }
+
+    private static void droppedJob() throws ReflectiveOperationException {
+        RateMonoKernel x = one(3, 3);
+        setOf(x, "costOf", 0, 5);
+        x.setDemand(0, 5);
+        x.start();
+        x.run(3);
+        Check.dueTask(x, 0, 3, 3, 5, 0, 0, 5, 3, 0, 1, 0, 0, 0, 0, 0, 2);
+        x.run(1);
+        Check.dueTask(x, 0, 3, 3, 5, 0, 0, 5, 3, 0, 2, 0, 0, 1, 0, 0, 4);
+        x.run(6);
+        Check.dueTask(x, 0, 3, 3, 5, 0, 0, 5, 3, 0, 4, 0, 0, 3, 0, 0, 4);
+        x.setDemand(0, 1);
+        x.run(3);
+        // The new job's response is counted from its own release.
+        Check.dueTask(x, 0, 3, 3, 5, 0, 0, 1, 3, 0, 5, 1, 0, 4, 1, 1, 0);
+        Check.dueLog(x, 1);
+        Check.due("getPreemptions()", x.getPreemptions(), 0);
+    }
+
+    private static void dropIsNoPreemption() throws ReflectiveOperationException {
+        RateMonoKernel x = one(4, 1);
+        x.admit(5, 5, 2, 0);
+        x.setOffset(0, 5);
+        setOf(x, "costOf", 1, 20);
+        x.setDemand(1, 20);
+        x.start();
+        x.run(5);
+        Check.due("getRunning() at 5", x.getRunning(), 1);
+        // At 5 the running job is dropped and a higher task takes over: nothing was preempted.
+        x.run(1);
+        Check.due("getRunning() at 6", x.getRunning(), 0);
+        Check.dueField(x, 1, RateMonoKernel.F_MISSES, 1);
+        Check.dueField(x, 1, RateMonoKernel.F_REMAINING, 20);
+        Check.due("getPreemptions() at 6", x.getPreemptions(), 0);
+        // At 9 the same task takes over from a job that stays pending.
+        x.run(4);
+        Check.due("getRunning() at 10", x.getRunning(), 0);
+        Check.due("getPreemptions() at 10", x.getPreemptions(), 1);
+    }
+
+    private static void dropMakesTheMarkAnew() throws ReflectiveOperationException {
+        RateMonoKernel x = one(3, 3);
+        setOf(x, "costOf", 0, 4);
+        x.setDemand(0, 9);
+        x.start();
+        x.run(3);
+        x.setDemand(0, 2);
+        x.run(3);
+        Check.dueTask(x, 0, 3, 3, 4, 0, 0, 2, 3, 0, 2, 1, 0, 1, 2, 2, 0);
+        Check.dueLog(x, 2);
+    }
+
+    private static void dropIsOneMissAndNoEnd() throws ReflectiveOperationException {
+        RateMonoKernel x = one(4, 4);
+        x.admit(250, 250, 1, 0);
+        Check.due("one task alone fits", x.getTaskCount(), 1);
+        setOf(x, "costOf", 0, 9);
+        x.setDemand(0, 1000);
+        x.start();
+        x.run(401);
+        Check.dueField(x, 0, RateMonoKernel.F_RELEASED, 101);
+        Check.dueField(x, 0, RateMonoKernel.F_MISSES, 100);
+        Check.dueField(x, 0, RateMonoKernel.F_ENDED, 0);
+        Check.dueField(x, 0, RateMonoKernel.F_OVERRUNS, 0);
+        Check.due("getLogCount()", x.getLogCount(), 0);
+        Check.due("getLogEntry(0)", x.getLogEntry(0), -1);
+    }
+
+    private static void timeWraps() throws ReflectiveOperationException {
+        RateMonoKernel x = one(1, 1);
+        x.start();
+        set(x, "time", Integer.MAX_VALUE - 1);
+        Check.due("run(2)", x.run(2), Integer.MIN_VALUE);
+        Check.dueField(x, 0, RateMonoKernel.F_RELEASED, 2);
+        Check.dueField(x, 0, RateMonoKernel.F_LAST, 1);
+        // t >= O fails for every t below 0.
+        Check.due("run(3)", x.run(3), Integer.MIN_VALUE + 3);
+        Check.dueField(x, 0, RateMonoKernel.F_RELEASED, 2);
+        Check.due("getIdleTicks()", x.getIdleTicks(), 3);
+        set(x, "time", -2);
+        Check.due("run(2)", x.run(2), 0);
+        Check.dueField(x, 0, RateMonoKernel.F_RELEASED, 2);
+        Check.due("run(1)", x.run(1), 1);
+        Check.dueField(x, 0, RateMonoKernel.F_RELEASED, 3);
+    }
+
+    private static void jobAcrossTheWrap() throws ReflectiveOperationException {
+        RateMonoKernel x = one(10, 6);
+        x.setOffset(0, 5);
+        x.start();
+        // 2147483645 - 5 is a multiple of 10.
+        set(x, "time", 2147483644);
+        x.run(1);
+        Check.dueField(x, 0, RateMonoKernel.F_RELEASED, 0);
+        x.run(6);
+        Check.due("getTime()", x.getTime(), Integer.MIN_VALUE + 3);
+        Check.dueTask(x, 0, 10, 10, 6, 0, 5, 6, 6, 0, 1, 1, 0, 0, 6, 6, 0);
+        Check.dueLog(x, 6);
+    }
+
+    private static void countsWrap() throws ReflectiveOperationException {
+        RateMonoKernel x = one(2, 1);
+        x.start();
+        set(x, "idleTicks", Integer.MAX_VALUE);
+        set(x, "preemptions", Integer.MAX_VALUE);
+        setOf(x, "releasedOf", 0, Integer.MAX_VALUE);
+        setOf(x, "endedOf", 0, Integer.MAX_VALUE);
+        x.run(2);
+        Check.due("getIdleTicks()", x.getIdleTicks(), Integer.MIN_VALUE);
+        Check.due("getPreemptions()", x.getPreemptions(), Integer.MAX_VALUE);
+        Check.dueField(x, 0, RateMonoKernel.F_RELEASED, Integer.MIN_VALUE);
+        Check.dueField(x, 0, RateMonoKernel.F_ENDED, Integer.MIN_VALUE);
+        Check.dueLog(x, 1);
+    }
+}
