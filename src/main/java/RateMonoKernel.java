@@ -313,7 +313,7 @@ public final class RateMonoKernel {
         return NO_BOUND;
     }
 
-    /** The ticks that tasks of higher priority can take within a window that starts with all their releases. */
+    /** Rounds up: a job released within the window may take its whole cost there. */
     private int interference(int task, int window) {
         int sum = 0;
         for (int j = 0; j < maxTasks; j++) {
@@ -337,11 +337,16 @@ public final class RateMonoKernel {
         if (unfinished != NONE && unfinished != picked) {
             preemptions++;
         }
-        remainingOf[picked]--;
+        executeJob(picked);
+    }
+
+    private void executeJob(int slot) {
+        remainingOf[slot]--;
         time++;
-        unfinished = picked;
-        if (remainingOf[picked] == 0) {
-            endJob(picked);
+        unfinished = slot;
+        if (remainingOf[slot] == 0) {
+            unfinished = NONE;
+            endJob(slot);
         }
     }
 
@@ -366,7 +371,9 @@ public final class RateMonoKernel {
 
     private void dropJob(int slot) {
         missesOf[slot]++;
-        forgetJob(slot);
+        if (unfinished == slot) {
+            unfinished = NONE;
+        }
     }
 
     private void releaseJob(int slot) {
@@ -403,15 +410,6 @@ public final class RateMonoKernel {
             worstOf[slot] = response;
         }
         appendToLog(entry);
-        forgetJob(slot);
-    }
-
-    /** An ended or dropped job is no longer one that could be preempted. */
-    private void forgetJob(int slot) {
-        remainingOf[slot] = 0;
-        if (unfinished == slot) {
-            unfinished = NONE;
-        }
     }
 
     private void appendToLog(int entry) {
