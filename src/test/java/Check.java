@@ -1,18 +1,37 @@
 import java.util.function.Consumer;
+import java.util.function.Predicate;
+import java.util.function.Supplier;
+import java.util.function.ToIntFunction;
 
 /** Prints every answer that is not the one that is due; a test's main method ends with {@link #end()}. */
 final class Check {
+    private static String sentence = "";
     private static int made = 0;
     private static int wrong = 0;
 
     private Check() {
     }
 
+    /** The promise, and its words that the answers from here on test. */
+    static void sentence(int promise, String words) {
+        sentence = "[promise " + promise + ": " + words + "] ";
+    }
+
+    /** As above, with the one case of several that is tested. */
+    static void sentence(int promise, String words, String which) {
+        sentence(promise, words + " | " + which);
+    }
+
+    /** As {@link #sentence(int, String)}, for the document's part "What it is". */
+    static void opening(String words) {
+        sentence = "[what it is: " + words + "] ";
+    }
+
     static void due(String call, long got, long want) {
         made++;
         if (got != want) {
             wrong++;
-            System.out.println(call + " answered " + got + ", due is " + want);
+            System.out.println(sentence + call + " answered " + got + ", due is " + want);
         }
     }
 
@@ -24,7 +43,7 @@ final class Check {
         made++;
         if (!got.equals(want)) {
             wrong++;
-            System.out.println(what + " was\n  " + got + "\ndue is\n  " + want);
+            System.out.println(sentence + what + " was\n  " + got + "\ndue is\n  " + want);
         }
     }
 
@@ -32,10 +51,17 @@ final class Check {
         due("getTask(" + slot + ", " + f + ")", x.getTask(slot, f), want);
     }
 
-    /** Fields 0 to 14 of a slot, in the order of their codes. */
+    /** Fields 0 to 14 of a slot, in the order of their codes; fewer values test the first ones. */
     static void dueTask(RateMonoKernel x, int slot, int... want) {
         for (int f = 0; f < want.length; f++) {
             dueField(x, slot, f, want[f]);
+        }
+    }
+
+    /** What both phases of {@link RateMonoKernel#getTask} answer for a slot that holds no task. */
+    static void dueNoTask(RateMonoKernel x, int slot) {
+        for (int f = 0; f <= 14; f++) {
+            dueField(x, slot, f, -1);
         }
     }
 
@@ -46,11 +72,53 @@ final class Check {
         }
     }
 
+    /** An object with these tasks (T, D, C, S) in slots 0, 1, .. */
+    static RateMonoKernel with(int maxTasks, int logCap, int[][] tasks) {
+        RateMonoKernel x = new RateMonoKernel(maxTasks, logCap);
+        for (int k = 0; k < tasks.length; k++) {
+            int[] a = tasks[k];
+            due("admit(" + a[0] + ", " + a[1] + ", " + a[2] + ", " + a[3] + ")", x.admit(a[0], a[1], a[2], a[3]), k);
+        }
+        return x;
+    }
+
+    /** Values on both sides of a range, next to it and far away, some of them within it if cut to 8 or 16 bits. */
+    static int[] outside(int low, int high) {
+        return new int[] {
+            Integer.MIN_VALUE, low - 65536, low - 256, low - 1,
+            high + 1, low + 256 > high ? low + 256 : high + 256, high + 65536, Integer.MAX_VALUE,
+        };
+    }
+
     /** Runs the call and sees that no answer of the object is another one after it. */
-    static void changesNothing(String call, RateMonoKernel x, Consumer<RateMonoKernel> made) {
+    static void changesNothing(String call, RateMonoKernel x, Consumer<RateMonoKernel> called) {
         String before = picture(x);
-        made.accept(x);
+        called.accept(x);
         dueText("the state after " + call, picture(x), before);
+    }
+
+    /** The call gives this answer, and the object goes on as one that was never called so. */
+    static void noTrace(String call, Supplier<RateMonoKernel> maker, ToIntFunction<RateMonoKernel> asked, int want) {
+        RateMonoKernel x = maker.get();
+        RateMonoKernel twin = maker.get();
+        due(call, asked.applyAsInt(x), want);
+        dueText("the state after " + call, picture(x), picture(twin));
+        goOn(x);
+        goOn(twin);
+        dueText("the state some calls after " + call, picture(x), picture(twin));
+    }
+
+    /** The call answers false, and the object goes on as one that was never called so. */
+    static void refused(String call, Supplier<RateMonoKernel> maker, Predicate<RateMonoKernel> asked) {
+        noTrace(call, maker, x -> asked.test(x) ? 1 : 0, 0);
+    }
+
+    /** Calls that bring out what an object's answers do not show at once. */
+    private static void goOn(RateMonoKernel x) {
+        x.admit(250, 250, 1, 1);
+        x.remove(0);
+        x.start();
+        x.run(300);
     }
 
     /** Every answer that an object gives without being changed. */

@@ -14,6 +14,9 @@ public final class OutOfReachTest {
         "time", "idleTicks", "preemptions", "deadlineOf", "costOf", "releasedOf", "endedOf",
     };
 
+    private static final String INT_ARITHMETIC =
+        "Time, the counts and the response arithmetic are Java `int` values and follow Java `int` arithmetic.";
+
     public static void main(String[] args) throws ReflectiveOperationException {
         if (!isStoredAsKnown()) {
             // The document leaves the storage free, so another one is no fault.
@@ -26,6 +29,8 @@ public final class OutOfReachTest {
         dropIsNoPreemption();
         dropMakesTheMarkAnew();
         dropIsOneMissAndNoEnd();
+        dropIsNotLogged();
+        missesOfBothKinds();
         timeWraps();
         jobAcrossTheWrap();
         countsWrap();
@@ -61,6 +66,7 @@ public final class OutOfReachTest {
     }
 
     private static void lateEnd() throws ReflectiveOperationException {
+        Check.sentence(7, "if r > D_i then misses_i increases by 1");
         RateMonoKernel x = one(10, 4);
         setOf(x, "deadlineOf", 0, 3);
         x.start();
@@ -77,6 +83,7 @@ public final class OutOfReachTest {
     }
 
     private static void endOnTheDeadline() throws ReflectiveOperationException {
+        Check.sentence(7, "if r > D_i then misses_i increases by 1", "not if r == D_i");
         RateMonoKernel x = one(10, 4);
         setOf(x, "deadlineOf", 0, 4);
         x.start();
@@ -85,6 +92,7 @@ public final class OutOfReachTest {
     }
 
     private static void droppedJob() throws ReflectiveOperationException {
+        Check.sentence(7, "If task i still has a pending job, that job is dropped: misses_i increases by 1");
         RateMonoKernel x = one(3, 3);
         setOf(x, "costOf", 0, 5);
         x.setDemand(0, 5);
@@ -104,6 +112,7 @@ public final class OutOfReachTest {
     }
 
     private static void dropIsNoPreemption() throws ReflectiveOperationException {
+        Check.sentence(7, "A job dropped in step 1 is no longer pending.");
         RateMonoKernel x = one(4, 1);
         x.admit(5, 5, 2, 0);
         x.setOffset(0, 5);
@@ -125,6 +134,7 @@ public final class OutOfReachTest {
     }
 
     private static void dropMakesTheMarkAnew() throws ReflectiveOperationException {
+        Check.sentence(7, "(otherwise it is not marked, whatever the task's earlier jobs were)", "after a dropped job");
         RateMonoKernel x = one(3, 3);
         setOf(x, "costOf", 0, 4);
         x.setDemand(0, 9);
@@ -137,9 +147,8 @@ public final class OutOfReachTest {
     }
 
     private static void dropIsOneMissAndNoEnd() throws ReflectiveOperationException {
+        Check.sentence(7, "the dropped job is not logged and does not count as ended");
         RateMonoKernel x = one(4, 4);
-        x.admit(250, 250, 1, 0);
-        Check.due("one task alone fits", x.getTaskCount(), 1);
         setOf(x, "costOf", 0, 9);
         x.setDemand(0, 1000);
         x.start();
@@ -148,11 +157,42 @@ public final class OutOfReachTest {
         Check.dueField(x, 0, RateMonoKernel.F_MISSES, 100);
         Check.dueField(x, 0, RateMonoKernel.F_ENDED, 0);
         Check.dueField(x, 0, RateMonoKernel.F_OVERRUNS, 0);
-        Check.due("getLogCount()", x.getLogCount(), 0);
+        Check.dueField(x, 0, RateMonoKernel.F_WORST, 0);
+        Check.dueField(x, 0, RateMonoKernel.F_LAST, 0);
+    }
+
+    private static void dropIsNotLogged() throws ReflectiveOperationException {
+        Check.sentence(15, "Dropped jobs are never logged.");
+        RateMonoKernel x = one(4, 4);
+        setOf(x, "costOf", 0, 9);
+        x.setDemand(0, 1000);
+        x.start();
+        x.run(401);
+        Check.dueLog(x);
         Check.due("getLogEntry(0)", x.getLogEntry(0), -1);
+        x.setDemand(0, 2);
+        // The jobs released at 404 and 408 end, and these alone are held.
+        x.run(9);
+        Check.dueLog(x, 2, 2);
+    }
+
+    private static void missesOfBothKinds() throws ReflectiveOperationException {
+        Check.opening("deadline misses so far (late ends plus dropped jobs)");
+        RateMonoKernel x = one(5, 5);
+        setOf(x, "deadlineOf", 0, 3);
+        setOf(x, "costOf", 0, 9);
+        x.start();
+        int[][] rows = {{3, 0}, {4, 1}, {9, 1}, {4, 3}, {9, 3}, {3, 4}};
+        for (int[] row : rows) {
+            x.setDemand(0, row[0]);
+            x.run(5);
+            Check.dueField(x, 0, RateMonoKernel.F_MISSES, row[1]);
+        }
+        Check.dueLog(x, 3, 4, 4, 3);
     }
 
     private static void timeWraps() throws ReflectiveOperationException {
+        Check.sentence(7, INT_ARITHMETIC, "time");
         RateMonoKernel x = one(1, 1);
         x.start();
         set(x, "time", Integer.MAX_VALUE - 1);
@@ -171,6 +211,7 @@ public final class OutOfReachTest {
     }
 
     private static void jobAcrossTheWrap() throws ReflectiveOperationException {
+        Check.sentence(7, INT_ARITHMETIC, "the response");
         RateMonoKernel x = one(10, 6);
         x.setOffset(0, 5);
         x.start();
@@ -185,6 +226,7 @@ public final class OutOfReachTest {
     }
 
     private static void countsWrap() throws ReflectiveOperationException {
+        Check.sentence(7, INT_ARITHMETIC, "the counts");
         RateMonoKernel x = one(2, 1);
         x.start();
         set(x, "idleTicks", Integer.MAX_VALUE);
