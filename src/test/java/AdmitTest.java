@@ -197,17 +197,9 @@ public final class AdmitTest {
     private static void refusedWhenRunningChangesNothing() {
         Check.sentence(2, NO_CHANGE, "`ERR_STARTED`");
         int[][] asked = {{80, 80, 1, 0}, {5, 5, 1, 0}, {0, 0, 0, 0}};
-        refusedAdmit(() -> {
-            RateMonoKernel x = three();
-            x.start();
-            return x;
-        }, RateMonoKernel.ERR_STARTED, asked);
-        refusedAdmit(() -> {
-            RateMonoKernel x = three();
-            x.start();
-            x.run(11);
-            return x;
-        }, RateMonoKernel.ERR_STARTED, asked);
+        for (int ticks : new int[] {0, 1, 10}) {
+            refusedAdmit(() -> Sets.threeAt(ticks), RateMonoKernel.ERR_STARTED, asked);
+        }
     }
 
     private static void refusedForRangeChangesNothing() {

@@ -126,6 +126,12 @@ public final class AnalysisTest {
         Check.due("one tick is left: C = 2", x.admit(255, 255, 2, 0), RateMonoKernel.ERR_UNSCHEDULABLE);
         Check.due("one tick is left: C = 1", x.admit(255, 255, 1, 0), 1);
         dueAnalysis(x, 1, 0, 255);
+        // f is 11 for every R up to D = 10, and 11 itself is no bound then.
+        RateMonoKernel y = Check.with(2, 8, new int[][] {{20, 10, 5, 0}});
+        Check.due("admit(40, 10, 6, 0)", y.admit(40, 10, 6, 0), RateMonoKernel.ERR_UNSCHEDULABLE);
+        // More is asked for than there is time, so that f stays above R for good.
+        RateMonoKernel z = Check.with(2, 8, new int[][] {{3, 3, 2, 0}});
+        Check.due("admit(255, 255, 100, 0)", z.admit(255, 255, 100, 0), RateMonoKernel.ERR_UNSCHEDULABLE);
     }
 
     private static void termAloneFillsTheDeadline() {

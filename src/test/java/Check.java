@@ -100,25 +100,32 @@ final class Check {
     /** The call gives this answer, and the object goes on as one that was never called so. */
     static void noTrace(String call, Supplier<RateMonoKernel> maker, ToIntFunction<RateMonoKernel> asked, int want) {
         RateMonoKernel x = maker.get();
-        RateMonoKernel twin = maker.get();
         due(call, asked.applyAsInt(x), want);
-        dueText("the state after " + call, picture(x), picture(twin));
-        goOn(x);
-        goOn(twin);
+        dueText("the state after " + call, picture(x), picture(maker.get()));
+        // What no answer shows at once may show later.
+        dueLater(call, maker, asked, k -> k.run(300));
+        dueLater(call, maker, asked, k -> {
+            k.admit(250, 250, 1, 1);
+            k.remove(0);
+            k.start();
+            k.run(300);
+        });
+    }
+
+    /** Nothing else is called between: a fault in that call would hide the one that is looked for. */
+    private static void dueLater(String call, Supplier<RateMonoKernel> maker, ToIntFunction<RateMonoKernel> asked,
+            Consumer<RateMonoKernel> goOn) {
+        RateMonoKernel x = maker.get();
+        RateMonoKernel twin = maker.get();
+        asked.applyAsInt(x);
+        goOn.accept(x);
+        goOn.accept(twin);
         dueText("the state some calls after " + call, picture(x), picture(twin));
     }
 
     /** The call answers false, and the object goes on as one that was never called so. */
     static void refused(String call, Supplier<RateMonoKernel> maker, Predicate<RateMonoKernel> asked) {
         noTrace(call, maker, x -> asked.test(x) ? 1 : 0, 0);
-    }
-
-    /** Calls that bring out what an object's answers do not show at once. */
-    private static void goOn(RateMonoKernel x) {
-        x.admit(250, 250, 1, 1);
-        x.remove(0);
-        x.start();
-        x.run(300);
     }
 
     /** Every answer that an object gives without being changed. */

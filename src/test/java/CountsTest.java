@@ -192,12 +192,12 @@ public final class CountsTest {
             RateMonoKernel::getTaskCount, phase, RateMonoKernel::getTime,
             RateMonoKernel::getRunning, RateMonoKernel::getIdleTicks, RateMonoKernel::getPreemptions);
         int[] dueInSetup = {3, 0, 0, -1, 0, 0};
-        // At 7: ticks 0 and 1 to task 0, 2 to 4 to task 1, 5 and 6 to task 2.
-        int[] dueAtSeven = {3, 1, 7, 2, 0, 0};
+        // At 10: ticks 0 and 1 to task 0, 2 to 4 to task 1, 8 and 9 to task 2, which the next tick preempts.
+        int[] dueAtTen = {3, 1, 10, 2, 3, 0};
         for (int i = 0; i < promises.length; i++) {
             Check.sentence(promises[i], "It changes nothing.");
             Check.noTrace("the call", Sets::three, calls.get(i), dueInSetup[i]);
-            Check.noTrace("the call", () -> Sets.threeAt(7), calls.get(i), dueAtSeven[i]);
+            Check.noTrace("the call", () -> Sets.threeAt(10), calls.get(i), dueAtTen[i]);
         }
     }
 }

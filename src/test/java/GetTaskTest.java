@@ -21,18 +21,18 @@ public final class GetTaskTest {
         return x;
     }
 
-    private static RateMonoKernel ran() {
+    private static RateMonoKernel ran(int ticks) {
         RateMonoKernel x = two();
         x.start();
-        x.run(25);
+        x.run(ticks);
         return x;
     }
 
     private static void everyField() {
         Check.sentence(8, "answers the value of field `f` of the task in `slot`");
         // Task 1 runs in ticks 3, 4, 13, 14, 23 and 24; task 0 in the other 19.
-        Check.dueTask(ran(), 0, 200, 150, 60, 7, 0, 60, 76, 0, 1, 0, 0, 0, 0, 0, 41);
-        Check.dueTask(ran(), 1, 10, 9, 2, 5, 3, 8, 9, 7, 3, 3, 3, 0, 2, 2, 0);
+        Check.dueTask(ran(25), 0, 200, 150, 60, 7, 0, 60, 76, 0, 1, 0, 0, 0, 0, 0, 41);
+        Check.dueTask(ran(25), 1, 10, 9, 2, 5, 3, 8, 9, 7, 3, 3, 3, 0, 2, 2, 0);
     }
 
     private static void slotOutOfRange() {
@@ -55,7 +55,7 @@ public final class GetTaskTest {
         Check.dueNoTask(new RateMonoKernel(8, 8), 0);
         Check.dueNoTask(new RateMonoKernel(8, 8), 7);
         Check.dueNoTask(two(), 2);
-        Check.dueNoTask(ran(), 2);
+        Check.dueNoTask(ran(25), 2);
         RateMonoKernel x = two();
         x.remove(1);
         Check.dueNoTask(x, 1);
@@ -71,9 +71,9 @@ public final class GetTaskTest {
         Check.sentence(8, "or `f` is not in [0, 14]");
         for (int f : Check.outside(0, 14)) {
             Check.dueField(two(), 0, f, -1);
-            Check.dueField(ran(), 1, f, -1);
-            Check.dueField(ran(), 2, f, -1);
-            Check.dueField(ran(), 3, f, -1);
+            Check.dueField(ran(25), 1, f, -1);
+            Check.dueField(ran(25), 2, f, -1);
+            Check.dueField(ran(25), 3, f, -1);
         }
     }
 
@@ -145,7 +145,8 @@ public final class GetTaskTest {
                 int asked = f;
                 String call = "getTask(" + slot + ", " + f + ")";
                 Check.noTrace(call, GetTaskTest::two, x -> x.getTask(slot, asked), two().getTask(slot, f));
-                Check.noTrace(call, GetTaskTest::ran, x -> x.getTask(slot, asked), ran().getTask(slot, f));
+                // The next tick preempts task 0.
+                Check.noTrace(call, () -> ran(23), x -> x.getTask(slot, asked), ran(23).getTask(slot, f));
             }
         }
     }

@@ -181,7 +181,7 @@ public final class LogTest {
 
     private static void neitherChangesAnything() {
         Check.sentence(15, "Neither call changes anything.");
-        for (int at : new int[] {0, 3, 100}) {
+        for (int at : new int[] {0, 3, 10, 100}) {
             int held = Sets.threeAt(at).getLogCount();
             Check.noTrace("getLogCount()", () -> Sets.threeAt(at), RateMonoKernel::getLogCount, held);
             for (int i : new int[] {-1, 0, held - 1, held, 8}) {

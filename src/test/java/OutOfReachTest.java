@@ -11,7 +11,7 @@ import java.util.Set;
  */
 public final class OutOfReachTest {
     private static final String[] FIELDS = {
-        "time", "idleTicks", "preemptions", "deadlineOf", "costOf", "releasedOf", "endedOf",
+        "time", "idleTicks", "preemptions", "deadlineOf", "costOf", "releasedOf", "endedOf", "overrunsOf", "missesOf",
     };
 
     private static final String INT_ARITHMETIC =
@@ -27,6 +27,7 @@ public final class OutOfReachTest {
         endOnTheDeadline();
         droppedJob();
         dropIsNoPreemption();
+        dropOfAnotherJob();
         dropMakesTheMarkAnew();
         dropIsOneMissAndNoEnd();
         dropIsNotLogged();
@@ -34,6 +35,8 @@ public final class OutOfReachTest {
         timeWraps();
         jobAcrossTheWrap();
         countsWrap();
+        overrunsAndMissesWrap();
+        preemptionsWrap();
         Check.end();
     }
 
@@ -133,6 +136,28 @@ public final class OutOfReachTest {
         Check.due("getPreemptions() at 10", x.getPreemptions(), 1);
     }
 
+    private static void dropOfAnotherJob() throws ReflectiveOperationException {
+        Check.sentence(7, "if the job that executed in the previous tick is still pending", "another one was dropped");
+        int[][] tasks = {{10, 10, 2, 0}, {8, 8, 3, 0}, {5, 5, 1, 0}};
+        for (int low = 0; low < 2; low++) {
+            // The task whose job is dropped stands before or behind the one that runs.
+            int[][] inSlots = {tasks[low], tasks[1 - low], tasks[2]};
+            RateMonoKernel x = Check.with(3, 8, inSlots);
+            x.setOffset(1 - low, 8);
+            x.setOffset(2, 10);
+            setOf(x, "costOf", low, 20);
+            x.setDemand(low, 20);
+            x.start();
+            x.run(10);
+            Check.due("getRunning() at 10", x.getRunning(), 1 - low);
+            Check.due("getPreemptions() at 10", x.getPreemptions(), 1);
+            x.run(1);
+            Check.due("getRunning() at 11", x.getRunning(), 2);
+            Check.dueField(x, low, RateMonoKernel.F_MISSES, 1);
+            Check.due("getPreemptions() at 11", x.getPreemptions(), 2);
+        }
+    }
+
     private static void dropMakesTheMarkAnew() throws ReflectiveOperationException {
         Check.sentence(7, "(otherwise it is not marked, whatever the task's earlier jobs were)", "after a dropped job");
         RateMonoKernel x = one(3, 3);
@@ -226,18 +251,43 @@ public final class OutOfReachTest {
     }
 
     private static void countsWrap() throws ReflectiveOperationException {
-        Check.sentence(7, INT_ARITHMETIC, "the counts");
+        Check.sentence(7, INT_ARITHMETIC, "idle ticks, released and ended");
         RateMonoKernel x = one(2, 1);
         x.start();
         set(x, "idleTicks", Integer.MAX_VALUE);
-        set(x, "preemptions", Integer.MAX_VALUE);
         setOf(x, "releasedOf", 0, Integer.MAX_VALUE);
         setOf(x, "endedOf", 0, Integer.MAX_VALUE);
         x.run(2);
         Check.due("getIdleTicks()", x.getIdleTicks(), Integer.MIN_VALUE);
-        Check.due("getPreemptions()", x.getPreemptions(), Integer.MAX_VALUE);
         Check.dueField(x, 0, RateMonoKernel.F_RELEASED, Integer.MIN_VALUE);
         Check.dueField(x, 0, RateMonoKernel.F_ENDED, Integer.MIN_VALUE);
         Check.dueLog(x, 1);
+    }
+
+    private static void overrunsAndMissesWrap() throws ReflectiveOperationException {
+        Check.sentence(7, INT_ARITHMETIC, "overruns and misses");
+        RateMonoKernel x = one(5, 4);
+        setOf(x, "deadlineOf", 0, 3);
+        x.setDemand(0, 5);
+        x.start();
+        setOf(x, "overrunsOf", 0, Integer.MAX_VALUE);
+        setOf(x, "missesOf", 0, Integer.MAX_VALUE);
+        x.run(5);
+        Check.dueField(x, 0, RateMonoKernel.F_OVERRUNS, Integer.MIN_VALUE);
+        Check.dueField(x, 0, RateMonoKernel.F_MISSES, Integer.MIN_VALUE);
+        setOf(x, "costOf", 0, 9);
+        setOf(x, "missesOf", 0, Integer.MAX_VALUE);
+        x.setDemand(0, 9);
+        // A drop at 10.
+        x.run(6);
+        Check.dueField(x, 0, RateMonoKernel.F_MISSES, Integer.MIN_VALUE);
+    }
+
+    private static void preemptionsWrap() throws ReflectiveOperationException {
+        Check.sentence(7, INT_ARITHMETIC, "preemptions");
+        RateMonoKernel x = Sets.threeAt(10);
+        set(x, "preemptions", Integer.MAX_VALUE);
+        x.run(1);
+        Check.due("getPreemptions()", x.getPreemptions(), Integer.MIN_VALUE);
     }
 }

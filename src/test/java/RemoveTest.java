@@ -22,7 +22,7 @@ public final class RemoveTest {
 
     private static void whenRunning() {
         Check.sentence(3, "It is refused (answers `false`, changes nothing) if the kernel is RUNNING");
-        for (int ticks : new int[] {0, 1, 8, 100}) {
+        for (int ticks : new int[] {0, 1, 10, 100}) {
             for (int slot : new int[] {-1, 0, 1, 2, 3, 4}) {
                 refused(() -> Sets.threeAt(ticks), slot);
             }
@@ -132,10 +132,10 @@ public final class RemoveTest {
         Check.sentence(3, "(their T, D, C, S, offset and demand stay as they were)");
         RateMonoKernel x = Sets.three();
         Check.dueTask(x, 0, 10, 10, 2, 1, 0, 2, 5, 3);
-        Check.dueTask(x, 2, 40, 40, 4, 3, 5, 77, 9, 0);
+        Check.dueTask(x, 2, 40, 40, 4, 3, 8, 77, 9, 0);
         x.remove(1);
         Check.dueTask(x, 0, 10, 10, 2, 1, 0, 2, 5, 3, 0, 0, 0, 0, 0, 0, 0);
-        Check.dueTask(x, 2, 40, 40, 4, 3, 5, 77, 6, 0, 0, 0, 0, 0, 0, 0, 0);
+        Check.dueTask(x, 2, 40, 40, 4, 3, 8, 77, 6, 0, 0, 0, 0, 0, 0, 0, 0);
         Check.due("getTaskCount()", x.getTaskCount(), 2);
         Check.due("getTime()", x.getTime(), 0);
         Check.due("isStarted()", x.isStarted(), false);

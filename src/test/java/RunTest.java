@@ -66,7 +66,7 @@ public final class RunTest {
     private static void ticksBelowZero() {
         Check.sentence(7, "a value below 0 becomes 0");
         for (int ticks : new int[] {-1, -2, -255, -1000, -65535, Integer.MIN_VALUE + 1, Integer.MIN_VALUE}) {
-            for (int at : new int[] {0, 1, 3, 9}) {
+            for (int at : new int[] {0, 1, 3, 9, 10}) {
                 Check.noTrace("run(" + ticks + ")", () -> Sets.threeAt(at), x -> x.run(ticks), at);
             }
         }
@@ -95,8 +95,8 @@ public final class RunTest {
 
     private static void zeroTicks() {
         Check.sentence(7, "With n = 0 nothing changes and the answer is the current time.");
-        // Before the first tick, amid a job, after one's end, after idle ticks, long after.
-        for (int at : new int[] {0, 1, 2, 4, 5, 9, 10, 30, 1000}) {
+        // Before the first tick, amid a job, after its end, after idle ticks, before a preemption, long after.
+        for (int at : new int[] {0, 1, 2, 4, 5, 6, 8, 9, 10, 30, 1000}) {
             Check.noTrace("run(0)", () -> Sets.threeAt(at), x -> x.run(0), at);
         }
     }
@@ -457,7 +457,7 @@ public final class RunTest {
             x.run(ticks);
             Check.dueTask(x, 0, 10, 10, 2, 1, 0, 2, 5, 3);
             Check.dueTask(x, 1, 20, 20, 3, 2, 0, 3, 8, 3);
-            Check.dueTask(x, 2, 40, 40, 4, 3, 5, 77, 9, 0);
+            Check.dueTask(x, 2, 40, 40, 4, 3, 8, 77, 9, 0);
             Check.dueNoTask(x, 3);
         }
     }

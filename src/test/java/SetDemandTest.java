@@ -23,12 +23,9 @@ public final class SetDemandTest {
         Check.sentence(5, "if `slot` is not in [0, maxTasks-1]");
         for (int slot : Check.outside(0, 2)) {
             refused(() -> Sets.full(3), slot, 2);
-            refused(() -> {
-                RateMonoKernel x = Sets.full(3);
-                x.start();
-                x.run(1);
-                return x;
-            }, slot, 2);
+        }
+        for (int slot : Check.outside(0, 3)) {
+            refused(() -> Sets.threeAt(10), slot, 2);
         }
         for (int slot : Check.outside(0, 0)) {
             refused(() -> Sets.full(1), slot, 2);
@@ -38,7 +35,7 @@ public final class SetDemandTest {
     private static void slotNotInUse() {
         Check.sentence(5, "or the slot is not in use");
         refused(Sets::three, 3, 1);
-        refused(() -> Sets.threeAt(3), 3, 1);
+        refused(() -> Sets.threeAt(10), 3, 1);
         refused(() -> new RateMonoKernel(8, 8), 0, 1);
         refused(() -> new RateMonoKernel(8, 8), 7, 1);
         refused(() -> {
@@ -53,7 +50,7 @@ public final class SetDemandTest {
         for (int demand : Check.outside(1, 1000)) {
             refused(Sets::three, 0, demand);
             refused(() -> Sets.threeAt(0), 0, demand);
-            refused(() -> Sets.threeAt(3), 2, demand);
+            refused(() -> Sets.threeAt(10), 2, demand);
         }
     }
 
@@ -130,7 +127,7 @@ public final class SetDemandTest {
 
     private static void nothingElseChanges() {
         Check.sentence(5, "Bounds, blocking terms and all counts are unchanged.");
-        for (int ticks : new int[] {-1, 0, 1, 3, 12, 40}) {
+        for (int ticks : new int[] {-1, 0, 1, 3, 10, 40}) {
             for (int demand : new int[] {1, 3, 4, 1000}) {
                 RateMonoKernel x = ticks < 0 ? Sets.three() : Sets.threeAt(ticks);
                 String before = Check.picture(x);

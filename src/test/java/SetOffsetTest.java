@@ -11,6 +11,7 @@ public final class SetOffsetTest {
         firstRelease();
         laterCallCounts();
         nothingElseChanges();
+        laterAnalysisDoesNotSeeThem();
         Check.end();
     }
 
@@ -20,7 +21,7 @@ public final class SetOffsetTest {
 
     private static void whenRunning() {
         Check.sentence(4, "It is refused (answers `false`, changes nothing) if the phase is RUNNING");
-        for (int ticks : new int[] {0, 1, 4, 100}) {
+        for (int ticks : new int[] {0, 1, 10, 100}) {
             for (int slot : new int[] {-1, 0, 1, 2, 3, 4}) {
                 refused(() -> Sets.threeAt(ticks), slot, 1);
             }
@@ -106,11 +107,27 @@ public final class SetOffsetTest {
             Check.due("setOffset(1, " + offset + ")", x.setOffset(1, offset), true);
             Check.dueTask(x, 0, 10, 10, 2, 1, 0, 2, 5, 3, 0, 0, 0, 0, 0, 0, 0);
             Check.dueTask(x, 1, 20, 20, 3, 2, offset, 3, 8, 3, 0, 0, 0, 0, 0, 0, 0);
-            Check.dueTask(x, 2, 40, 40, 4, 3, 5, 77, 9, 0, 0, 0, 0, 0, 0, 0, 0);
+            Check.dueTask(x, 2, 40, 40, 4, 3, 8, 77, 9, 0, 0, 0, 0, 0, 0, 0, 0);
             x.setOffset(1, 0);
             Check.dueText("the state with the old offset", Check.picture(x), Check.picture(Sets.three()));
         }
-        // The offsets keep these two apart for good, and still the analysis does not see them.
+    }
+
+    private static void laterAnalysisDoesNotSeeThem() {
+        Check.sentence(4, "bounds and blocking terms are not affected by offsets", "of a later set");
+        RateMonoKernel x = Sets.three();
+        for (int slot = 0; slot < 3; slot++) {
+            x.setOffset(slot, 100 + slot);
+        }
+        Check.due("admit(80, 80, 5, 4)", x.admit(80, 80, 5, 4), 3);
+        Check.dueTask(x, 0, 10, 10, 2, 1, 100, 2, 6, 4);
+        Check.dueTask(x, 1, 20, 20, 3, 2, 101, 3, 9, 4);
+        // 4 + 4 + 3 + 2 * 2.
+        Check.dueTask(x, 2, 40, 40, 4, 3, 102, 77, 15, 4);
+        Check.dueTask(x, 3, 80, 80, 5, 4, 0, 5, 16, 0);
+        x.remove(3);
+        Check.dueTask(x, 0, 10, 10, 2, 1, 100, 2, 5, 3);
+        // The offset keeps these two apart for good, and still there is no room.
         RateMonoKernel y = Check.with(2, 8, new int[][] {{10, 5, 5, 0}});
         y.setOffset(0, 5);
         Check.due("admit(10, 5, 5, 0)", y.admit(10, 5, 5, 0), RateMonoKernel.ERR_UNSCHEDULABLE);

@@ -3,10 +3,10 @@ final class Sets {
     private Sets() {
     }
 
-    /** Three tasks in order of priority; a fourth slot is free. */
+    /** Three tasks in order of priority; a fourth slot is free. Once started, task 2 is preempted in tick 10. */
     static RateMonoKernel three() {
         RateMonoKernel x = Check.with(4, 8, new int[][] {{10, 10, 2, 1}, {20, 20, 3, 2}, {40, 40, 4, 3}});
-        x.setOffset(2, 5);
+        x.setOffset(2, 8);
         x.setDemand(2, 77);
         return x;
     }
