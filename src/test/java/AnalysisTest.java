@@ -1,3 +1,7 @@
+import java.util.ArrayList;
+import java.util.Arrays;
+import java.util.List;
+
 /** "What it is": the priority order and the analysis. */
 public final class AnalysisTest {
     public static void main(String[] args) {
@@ -14,6 +18,7 @@ public final class AnalysisTest {
         termAloneFillsTheDeadline();
         everyTaskNeedsItsBound();
         blockingIsForTheAnalysisOnly();
+        bothWaysToTheBound();
         Check.end();
     }
 
@@ -165,5 +170,91 @@ public final class AnalysisTest {
             x.run(1);
             Check.due("getRunning()", x.getRunning(), slot);
         }
+    }
+
+    /** Every pair of tasks up to T = 5, and a third one behind it. */
+    private static void bothWaysToTheBound() {
+        Check.opening("(f_i is monotone, so this equals the least R in [1, D_i] with f_i(R) <= R.)");
+        List<int[]> tasks = smallTasks();
+        for (int[] a : tasks) {
+            for (int[] b : tasks) {
+                dueByBothWays(new int[][] {a, b});
+            }
+        }
+        int[][] pairs = {{3, 3, 1, 0}, {5, 4, 1, 1}, {7, 7, 2, 2}, {5, 5, 2, 0}, {4, 3, 1, 0}};
+        for (int[] a : pairs) {
+            for (int[] b : pairs) {
+                for (int[] c : tasks) {
+                    dueByBothWays(new int[][] {a, b, c});
+                }
+            }
+        }
+    }
+
+    private static List<int[]> smallTasks() {
+        List<int[]> tasks = new ArrayList<>();
+        for (int t = 1; t <= 5; t++) {
+            for (int d = 1; d <= t; d++) {
+                for (int c = 1; c <= d; c++) {
+                    for (int s = 0; s <= 2; s++) {
+                        tasks.add(new int[] {t, d, c, s});
+                    }
+                }
+            }
+        }
+        return tasks;
+    }
+
+    /** The last task joins the others if each one of the set has a bound, by == and by <=. */
+    private static void dueByBothWays(int[][] set) {
+        RateMonoKernel x = new RateMonoKernel(set.length, 8);
+        int last = set.length - 1;
+        for (int k = 0; k < last; k++) {
+            if (x.admit(set[k][0], set[k][1], set[k][2], set[k][3]) != k) {
+                return;
+            }
+        }
+        boolean passes = true;
+        for (int i = 0; i < set.length; i++) {
+            int bound = leastEqual(set, i);
+            Check.due("the least R by <=", leastNotAbove(set, i), bound);
+            passes &= bound > 0;
+        }
+        String told = Arrays.deepToString(set);
+        int answer = x.admit(set[last][0], set[last][1], set[last][2], set[last][3]);
+        Check.due("the last admit of " + told, answer, passes ? last : RateMonoKernel.ERR_UNSCHEDULABLE);
+        for (int i = 0; passes && i < set.length; i++) {
+            Check.due("F_BOUND of " + i + " in " + told, x.getTask(i, RateMonoKernel.F_BOUND), leastEqual(set, i));
+        }
+    }
+
+    private static int leastEqual(int[][] set, int i) {
+        int r = 1;
+        while (r <= set[i][1] && f(set, i, r) != r) {
+            r++;
+        }
+        return r <= set[i][1] ? r : 0;
+    }
+
+    private static int leastNotAbove(int[][] set, int i) {
+        int r = 1;
+        while (r <= set[i][1] && f(set, i, r) > r) {
+            r++;
+        }
+        return r <= set[i][1] ? r : 0;
+    }
+
+    private static int f(int[][] set, int i, int r) {
+        int term = 0;
+        int sum = 0;
+        for (int j = 0; j < set.length; j++) {
+            boolean higher = set[j][0] < set[i][0] || set[j][0] == set[i][0] && j < i;
+            if (higher) {
+                sum += (r + set[j][0] - 1) / set[j][0] * set[j][2];
+            } else if (j != i) {
+                term = Math.max(term, set[j][3]);
+            }
+        }
+        return set[i][2] + term + sum;
     }
 }
