@@ -44,8 +44,9 @@ import javax.tools.StandardJavaFileManager;
 import javax.tools.ToolProvider;
 
 /**
- * The rules of LANGUAGE.md that the source text shows; FaceTest has those that the
- * compiled class shows. Rule 7, and the ends of loops in rule 8, are left to the reader.
+ * Rules 1 to 6, 8 and 10 of LANGUAGE.md, on the source text; FaceTest has what the compiled
+ * class shows. Left to the reader: rule 7, the ends of loops (rule 8), and of rule 4 local
+ * names of arrays, the order in the constructor and a length's being 1 or more.
  */
 public final class LanguageTest {
     private static final File SOURCE = new File("src/main/java/RateMonoKernel.java");
